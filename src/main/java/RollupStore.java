@@ -320,7 +320,9 @@ public final class RollupStore {
     private Rollups rollupsAt(int series, int tier, int time) {
         Series asked = seriesAt(series);
         needRange(tier, MINUTES, DAYS);
-        needRange(time, 0, Integer.MAX_VALUE);
+        if (time < 0) {
+            throw new IllegalArgumentException("time is below 0");
+        }
         return asked.rollupsOf(tier);
     }
 

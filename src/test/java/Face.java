@@ -110,7 +110,8 @@ public final class Face {
     private static void text(String text) {
         String[] shutOut = {"\\bimport\\b", "\\bpackage\\b", "->", "::", "\\bsynchronized\\b", "\\bassert\\b", "\\bfinally\\b",
             "\\bcatch\\b", "\\btry\\b", "\\bObject\\b", "\\bSystem\\.(?!arraycopy)", "Exact\\(", "\\bArrays\\b", "\\bdouble\\[",
-            "\\bvar\\b", "\\bprotected\\b", "\\bRandom\\b", "\\bThread\\b", "\\bequals\\(", "\\bhashCode\\(", "\\btoString\\("};
+            "\\bvar\\b", "\\bprotected\\b", "\\bRandom\\b", "\\bThread\\b", "\\bequals\\(", "\\bhashCode\\(", "\\btoString\\(",
+            "MAX_VALUE", "MIN_VALUE"};
         for (String pattern : shutOut) {
             Matcher found = Pattern.compile(pattern).matcher(text);
             T.is("the text is without " + pattern, () -> found.find(), false);
