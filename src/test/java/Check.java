@@ -7,6 +7,10 @@ final class Check {
         Object answer();
     }
 
+    interface StoreCall {
+        Object on(Store x);
+    }
+
     static final String BOUNDS = "IndexOutOfBoundsException";
     static final String ARGUMENT = "IllegalArgumentException";
     static final String STATE = "IllegalStateException";
@@ -35,10 +39,10 @@ final class Check {
         }
     }
 
-    /** The call throws this exception and changes nothing. */
-    void refuses(String what, RollupStore store, Call call, String due) {
+    /** The call answers so, with the name of an exception if it throws one, and changes nothing. */
+    void refuses(String what, Store store, StoreCall call, Object due) {
         String before = Snapshot.of(store);
-        is(what, call, due);
+        is(what, () -> call.on(store), due);
         is(what + ": the state after it", () -> Snapshot.of(store), before);
     }
 

@@ -9,11 +9,11 @@ public final class Promises {
     private static final Check T = new Check("Promises");
 
     private interface RollupCall {
-        Object of(RollupStore x, int series, int tier, int time);
+        Object of(Store x, int series, int tier, int time);
     }
 
     private interface WindowCall {
-        Object of(RollupStore x, int series, int from, int to);
+        Object of(Store x, int series, int from, int to);
     }
 
     public static void main(String[] args) {
@@ -51,8 +51,8 @@ public final class Promises {
     }
 
     /** A gauge (0) and a counter (1), the clock at this time. */
-    private static RollupStore at(int clock) {
-        RollupStore x = new RollupStore();
+    private static Store at(int clock) {
+        Store x = new Store();
         x.addSeries(GAUGE);
         x.addSeries(COUNTER);
         for (int left = clock; left > 0; left -= 1000000) {
@@ -63,7 +63,7 @@ public final class Promises {
 
     // Promise 1
     private static void newObject() {
-        RollupStore x = new RollupStore();
+        Store x = new Store();
         T.is("1 series", () -> x.series(), 0);
         T.is("1 clock", () -> x.clock(), 0);
         for (int tier = POINTS; tier <= DAYS; tier++) {
@@ -76,21 +76,21 @@ public final class Promises {
         T.is("1 retention of hours", () -> x.setRetention(HOURS, 90000), 864000);
         T.is("1 retention of days", () -> x.setRetention(DAYS, 90000), 8640000);
         x.addSeries(GAUGE);
-        T.is("1 another object has its own series", () -> new RollupStore().series(), 0);
+        T.is("1 another object has its own series", () -> new Store().series(), 0);
     }
 
     // Promise 2
     private static void addSeries() {
-        RollupStore x = new RollupStore();
+        Store x = new Store();
         for (int kind : new int[] {-1, 2, MIN, MAX}) {
-            T.refuses("2 kind " + kind, x, () -> x.addSeries(kind), Check.ARGUMENT);
+            T.refuses("2 kind " + kind, x, s -> s.addSeries(kind), Check.ARGUMENT);
         }
         T.is("2 first", () -> x.addSeries(COUNTER), 0);
         T.is("2 second", () -> x.addSeries(GAUGE), 1);
         T.is("2 third", () -> x.addSeries(GAUGE), 2);
         T.is("2 fourth", () -> x.addSeries(COUNTER), 3);
-        T.refuses("2 fifth", x, () -> x.addSeries(GAUGE), Check.STATE);
-        T.refuses("2 fifth of no kind", x, () -> x.addSeries(2), Check.ARGUMENT);
+        T.refuses("2 fifth", x, s -> s.addSeries(GAUGE), Check.STATE);
+        T.refuses("2 fifth of no kind", x, s -> s.addSeries(2), Check.ARGUMENT);
         for (int tier = POINTS; tier <= DAYS; tier++) {
             int t = tier;
             T.is("2 without rows of tier " + t, () -> x.rows(3, t), 0);
@@ -102,7 +102,7 @@ public final class Promises {
 
     // Promise 3
     private static void put() {
-        RollupStore x = at(100000);
+        Store x = at(100000);
         T.is("3 new", () -> x.put(0, 99000, 5), false);
         T.is("3 replaced", () -> x.put(0, 99000, 6), true);
         T.is("3 replaced by the same", () -> x.put(0, 99000, 6), true);
@@ -110,30 +110,30 @@ public final class Promises {
         T.is("3 the other series", () -> x.rows(1, POINTS), 0);
         T.is("3 at the clock", () -> x.put(0, 100000, 0), false);
         T.is("3 just not too old", () -> x.put(0, 96400, 0), false);
-        T.refuses("3 too old", x, () -> x.put(0, 96399, 0), Check.STATE);
-        T.refuses("3 time 0 is too old", x, () -> x.put(0, 0, 0), Check.STATE);
-        T.refuses("3 later than the clock", x, () -> x.put(0, 100001, 0), Check.ARGUMENT);
-        T.refuses("3 time below 0", x, () -> x.put(0, -1, 0), Check.ARGUMENT);
-        T.refuses("3 least time", x, () -> x.put(0, MIN, 0), Check.ARGUMENT);
+        T.refuses("3 too old", x, s -> s.put(0, 96399, 0), Check.STATE);
+        T.refuses("3 time 0 is too old", x, s -> s.put(0, 0, 0), Check.STATE);
+        T.refuses("3 later than the clock", x, s -> s.put(0, 100001, 0), Check.ARGUMENT);
+        T.refuses("3 time below 0", x, s -> s.put(0, -1, 0), Check.ARGUMENT);
+        T.refuses("3 least time", x, s -> s.put(0, MIN, 0), Check.ARGUMENT);
         T.is("3 least of a gauge", () -> x.put(0, 99001, -1000000), false);
         T.is("3 greatest of a gauge", () -> x.put(0, 99002, 1000000), false);
-        T.refuses("3 below a gauge", x, () -> x.put(0, 99003, -1000001), Check.ARGUMENT);
-        T.refuses("3 above a gauge", x, () -> x.put(0, 99003, 1000001), Check.ARGUMENT);
+        T.refuses("3 below a gauge", x, s -> s.put(0, 99003, -1000001), Check.ARGUMENT);
+        T.refuses("3 above a gauge", x, s -> s.put(0, 99003, 1000001), Check.ARGUMENT);
         T.is("3 least of a counter", () -> x.put(1, 99001, 0), false);
         T.is("3 greatest of a counter", () -> x.put(1, 99002, 1000000), false);
-        T.refuses("3 below a counter", x, () -> x.put(1, 99003, -1), Check.ARGUMENT);
-        T.refuses("3 above a counter", x, () -> x.put(1, 99003, 1000001), Check.ARGUMENT);
-        T.refuses("3 wrong correction", x, () -> x.put(1, 99002, -1), Check.ARGUMENT);
-        T.refuses("3 too old and a wrong value", x, () -> x.put(0, 5, 1000001), Check.ARGUMENT);
-        T.refuses("3 no series and all wrong", x, () -> x.put(2, -1, 1000001), Check.BOUNDS);
-        T.refuses("3 series -1", x, () -> x.put(-1, 99000, 0), Check.BOUNDS);
-        RollupStore y = at(0);
+        T.refuses("3 below a counter", x, s -> s.put(1, 99003, -1), Check.ARGUMENT);
+        T.refuses("3 above a counter", x, s -> s.put(1, 99003, 1000001), Check.ARGUMENT);
+        T.refuses("3 wrong correction", x, s -> s.put(1, 99002, -1), Check.ARGUMENT);
+        T.refuses("3 too old and a wrong value", x, s -> s.put(0, 5, 1000001), Check.ARGUMENT);
+        T.refuses("3 no series and all wrong", x, s -> s.put(2, -1, 1000001), Check.BOUNDS);
+        T.refuses("3 series -1", x, s -> s.put(-1, 99000, 0), Check.BOUNDS);
+        Store y = at(0);
         T.is("3 at time 0", () -> y.put(0, 0, 1), false);
-        T.refuses("3 after time 0", y, () -> y.put(0, 1, 1), Check.ARGUMENT);
+        T.refuses("3 after time 0", y, s -> s.put(0, 1, 1), Check.ARGUMENT);
     }
 
     private static void putChangesRollups() {
-        RollupStore x = at(100000);
+        Store x = at(100000);
         x.put(0, 99000, 5);
         x.put(0, 99030, 9);
         x.put(0, 98990, 2);
@@ -152,16 +152,16 @@ public final class Promises {
     }
 
     private static void putIsFull() {
-        RollupStore x = at(100000);
+        Store x = at(100000);
         for (int part = 0; part < 5; part++) {
             int from = 97000 + 20 * part;
             T.is("3 fill from " + from, () -> x.putMany(0, from, 1, 1, 0, 20), 20);
         }
         T.is("3 full", () -> x.rows(0, POINTS), 100);
-        T.refuses("3 the 101st", x, () -> x.put(0, 97100, 1), Check.STATE);
-        T.refuses("3 the 101st, earlier", x, () -> x.put(0, 96999, 1), Check.STATE);
-        T.refuses("3 full, wrong value", x, () -> x.put(0, 97100, 1000001), Check.ARGUMENT);
-        T.refuses("4 full", x, () -> x.putMany(0, 97100, 1, 1, 0, 1), Check.STATE);
+        T.refuses("3 the 101st", x, s -> s.put(0, 97100, 1), Check.STATE);
+        T.refuses("3 the 101st, earlier", x, s -> s.put(0, 96999, 1), Check.STATE);
+        T.refuses("3 full, wrong value", x, s -> s.put(0, 97100, 1000001), Check.ARGUMENT);
+        T.refuses("4 full", x, s -> s.putMany(0, 97100, 1, 1, 0, 1), Check.STATE);
         T.is("3 full, replaced", () -> x.put(0, 97099, 2), true);
         T.is("4 full, replaced until the first new one", () -> x.putMany(0, 97098, 3, 1, 0, 20), 2);
         T.is("3 the other series is not full", () -> x.put(1, 97100, 1), false);
@@ -176,7 +176,7 @@ public final class Promises {
 
     // Promise 4
     private static void putMany() {
-        RollupStore x = at(100000);
+        Store x = at(100000);
         T.is("4 all", () -> x.putMany(0, 97000, 10, 30, -4, 5), 5);
         T.is("4 times", () -> x.timeOf(0, POINTS, 0) + " " + x.timeOf(0, POINTS, 4), "97000 97120");
         T.is("4 values", () -> x.valueAt(0, 97000) + " " + x.valueAt(0, 97060) + " " + x.valueAt(0, 97120), "10 2 -6");
@@ -193,24 +193,24 @@ public final class Promises {
             {MIN, 0, 1, 0, 1}, {99000, 0, MAX, 0, 1}, {99000, 0, 1, MIN, 1}, {99000, 0, 1, 0, MAX}, {0, 0, 0, 0, 1}};
         for (int[] a : wrong) {
             T.refuses("4 wrong " + java.util.Arrays.toString(a), x,
-                    () -> x.putMany(0, a[0], a[1], a[2], a[3], a[4]), Check.ARGUMENT);
+                    s -> s.putMany(0, a[0], a[1], a[2], a[3], a[4]), Check.ARGUMENT);
         }
-        T.refuses("4 counter below 0", x, () -> x.putMany(1, 99000, -1, 1, 0, 1), Check.ARGUMENT);
-        T.refuses("4 too old", x, () -> x.putMany(0, 96399, 0, 1, 0, 20), Check.STATE);
-        T.refuses("4 too old with a wrong step", x, () -> x.putMany(0, 96399, 0, 0, 0, 20), Check.ARGUMENT);
-        T.refuses("4 no series", x, () -> x.putMany(2, -1, 0, 0, 0, 0), Check.BOUNDS);
-        T.refuses("4 series -1", x, () -> x.putMany(-1, 99000, 0, 1, 0, 1), Check.BOUNDS);
+        T.refuses("4 counter below 0", x, s -> s.putMany(1, 99000, -1, 1, 0, 1), Check.ARGUMENT);
+        T.refuses("4 too old", x, s -> s.putMany(0, 96399, 0, 1, 0, 20), Check.STATE);
+        T.refuses("4 too old with a wrong step", x, s -> s.putMany(0, 96399, 0, 0, 0, 20), Check.ARGUMENT);
+        T.refuses("4 no series", x, s -> s.putMany(2, -1, 0, 0, 0, 0), Check.BOUNDS);
+        T.refuses("4 series -1", x, s -> s.putMany(-1, 99000, 0, 1, 0, 1), Check.BOUNDS);
     }
 
     private static void putManyEnds() {
-        RollupStore x = at(100000);
+        Store x = at(100000);
         T.is("4 ends at the clock", () -> x.putMany(0, 99998, 1, 1, 1, 20), 3);
         T.is("4 the one at the clock stands", () -> x.valueAt(0, 100000), 3);
         T.is("4 ends at the greatest value", () -> x.putMany(0, 98000, 999000, 1, 1000, 5), 2);
         T.is("4 ends at the least value", () -> x.putMany(0, 97000, -998000, 1, -1000, 5), 3);
         T.is("4 ends a counter at 0", () -> x.putMany(1, 97000, 25, 2, -10, 20), 3);
         T.is("4 what was refused is not written", () -> x.valueAt(1, 97006), Check.STATE);
-        RollupStore y = at(100000);
+        Store y = at(100000);
         for (int part = 0; part < 9; part++) {
             y.putMany(0, 97000 + 20 * part, 1, 2, 0, 10);
         }
@@ -221,21 +221,21 @@ public final class Promises {
 
     // Promise 5
     private static void erase() {
-        RollupStore x = at(100000);
+        Store x = at(100000);
         x.put(0, 99000, 5);
         x.put(0, 99001, 6);
         x.put(0, 96400, 7);
         x.put(1, 99000, 8);
-        T.refuses("5 no point", x, () -> x.erase(0, 99002), Check.STATE);
-        T.refuses("5 below 0", x, () -> x.erase(0, -1), Check.STATE);
-        T.refuses("5 least", x, () -> x.erase(0, MIN), Check.STATE);
-        T.refuses("5 later than the clock", x, () -> x.erase(0, 100001), Check.STATE);
-        T.refuses("5 greatest", x, () -> x.erase(0, MAX), Check.STATE);
-        T.refuses("5 series 2", x, () -> x.erase(2, 99000), Check.BOUNDS);
-        T.refuses("5 series -1", x, () -> x.erase(-1, -1), Check.BOUNDS);
+        T.refuses("5 no point", x, s -> s.erase(0, 99002), Check.STATE);
+        T.refuses("5 below 0", x, s -> s.erase(0, -1), Check.STATE);
+        T.refuses("5 least", x, s -> s.erase(0, MIN), Check.STATE);
+        T.refuses("5 later than the clock", x, s -> s.erase(0, 100001), Check.STATE);
+        T.refuses("5 greatest", x, s -> s.erase(0, MAX), Check.STATE);
+        T.refuses("5 series 2", x, s -> s.erase(2, 99000), Check.BOUNDS);
+        T.refuses("5 series -1", x, s -> s.erase(-1, -1), Check.BOUNDS);
         T.is("5 its value", () -> x.erase(0, 99000), 5);
         T.is("5 it is gone", () -> x.valueAt(0, 99000), Check.STATE);
-        T.refuses("5 not twice", x, () -> x.erase(0, 99000), Check.STATE);
+        T.refuses("5 not twice", x, s -> s.erase(0, 99000), Check.STATE);
         T.is("5 the next one stands", () -> x.valueAt(0, 99001), 6);
         T.is("5 the other series stands", () -> x.valueAt(1, 99000), 8);
         T.is("5 the rollup tells of the rest", () -> x.count(0, MINUTES, 99000) + " " + x.first(0, MINUTES, 99000), "1 6");
@@ -245,13 +245,13 @@ public final class Promises {
         T.is("5 its day stands", () -> x.hasRollup(0, DAYS, 96400), true);
         T.is("5 erased is not replaced", () -> x.put(0, 99000, 1), false);
         x.advance(2602);
-        T.refuses("5 too old", x, () -> x.erase(0, 99001), Check.STATE);
-        T.refuses("5 too old and no point", x, () -> x.erase(0, 98999), Check.STATE);
+        T.refuses("5 too old", x, s -> s.erase(0, 99001), Check.STATE);
+        T.refuses("5 too old and no point", x, s -> s.erase(0, 98999), Check.STATE);
     }
 
     // Points of a day expire while others of it are still written and erased.
     private static void eraseAfterExpiry() {
-        RollupStore x = at(86400 + 3600);
+        Store x = at(86400 + 3600);
         x.put(1, 86400, 50);
         x.put(1, 86460, 20);
         x.advance(20000);
@@ -270,9 +270,9 @@ public final class Promises {
 
     // Promise 6
     private static void advance() {
-        RollupStore x = at(0);
+        Store x = at(0);
         for (int seconds : new int[] {0, -1, 1000001, MIN, MAX}) {
-            T.refuses("6 " + seconds, x, () -> x.advance(seconds), Check.ARGUMENT);
+            T.refuses("6 " + seconds, x, s -> s.advance(seconds), Check.ARGUMENT);
         }
         x.put(0, 0, 4);
         T.is("6 least", () -> x.advance(1), 0);
@@ -296,7 +296,7 @@ public final class Promises {
         T.is("6 and stand", () -> x.advance(8640000 + 86399 - x.clock()), 0);
         T.is("6 two days", () -> x.advance(1), 2);
         T.is("6 nothing is left", () -> x.advance(1000000), 0);
-        RollupStore y = at(0);
+        Store y = at(0);
         y.put(0, 0, 1);
         T.is("6 greatest, all but the day", () -> y.advance(1000000), 3);
         T.is("6 the clock then", () -> y.clock(), 1000000);
@@ -308,18 +308,18 @@ public final class Promises {
         int[] first = {7200, 86400, 864000, 8640000};
         for (int tier = POINTS; tier <= DAYS; tier++) {
             int t = tier;
-            RollupStore x = at(200000);
-            T.refuses("7 too short " + t, x, () -> x.setRetention(t, least[t] - 1), Check.ARGUMENT);
-            T.refuses("7 too long " + t, x, () -> x.setRetention(t, 100000001), Check.ARGUMENT);
-            T.refuses("7 below 0 " + t, x, () -> x.setRetention(t, MIN), Check.ARGUMENT);
+            Store x = at(200000);
+            T.refuses("7 too short " + t, x, s -> s.setRetention(t, least[t] - 1), Check.ARGUMENT);
+            T.refuses("7 too long " + t, x, s -> s.setRetention(t, 100000001), Check.ARGUMENT);
+            T.refuses("7 below 0 " + t, x, s -> s.setRetention(t, MIN), Check.ARGUMENT);
             T.is("7 before " + t, () -> x.setRetention(t, 100000000), first[t]);
             T.is("7 longest " + t, () -> x.setRetention(t, least[t]), 100000000);
             T.is("7 shortest " + t, () -> x.setRetention(t, 100000), least[t]);
             T.is("7 horizon " + t, () -> x.horizon(t), 200000 - least[t]);
         }
-        RollupStore x = at(200000);
+        Store x = at(200000);
         for (int tier : new int[] {-1, 4, MIN, MAX}) {
-            T.refuses("7 tier " + tier, x, () -> x.setRetention(tier, 100000), Check.ARGUMENT);
+            T.refuses("7 tier " + tier, x, s -> s.setRetention(tier, 100000), Check.ARGUMENT);
         }
         T.is("7 none of them was set", () -> x.setRetention(POINTS, 20000), 7200);
         x.put(0, 200000, 5);
@@ -339,7 +339,7 @@ public final class Promises {
 
     // Promises 8 and 9
     private static void clockAndSeries() {
-        RollupStore x = new RollupStore();
+        Store x = new Store();
         x.advance(7);
         x.advance(1000000);
         T.is("8 clock", () -> x.clock(), 1000007);
@@ -351,7 +351,7 @@ public final class Promises {
         x.addSeries(COUNTER);
         x.addSeries(GAUGE);
         T.is("9 four", () -> x.series(), 4);
-        RollupStore y = new RollupStore();
+        Store y = new Store();
         for (int step = 0; step < 500; step++) {
             y.advance(1000000);
         }
@@ -360,7 +360,7 @@ public final class Promises {
 
     // Promise 10
     private static void horizon() {
-        RollupStore x = at(7200);
+        Store x = at(7200);
         T.is("10 at least 0", () -> x.horizon(POINTS), 0);
         x.advance(1);
         T.is("10 points", () -> x.horizon(POINTS), 1);
@@ -377,13 +377,13 @@ public final class Promises {
         x.advance(2);
         T.is("10 and then goes on", () -> x.horizon(POINTS), 1000002);
         for (int tier : new int[] {-1, 4, MIN, MAX}) {
-            T.refuses("10 tier " + tier, x, () -> x.horizon(tier), Check.ARGUMENT);
+            T.refuses("10 tier " + tier, x, s -> s.horizon(tier), Check.ARGUMENT);
         }
     }
 
     // Promise 11
     private static void rows() {
-        RollupStore x = at(86400);
+        Store x = at(86400);
         x.put(0, 86400, 1);
         x.put(0, 86399, 2);
         x.put(0, 86341, 3);
@@ -395,15 +395,15 @@ public final class Promises {
         T.is("11 days", () -> x.rows(0, DAYS), 2);
         T.is("11 the other series", () -> x.rows(1, DAYS), 0);
         for (int tier : new int[] {-1, 4, MIN, MAX}) {
-            T.refuses("11 tier " + tier, x, () -> x.rows(0, tier), Check.ARGUMENT);
+            T.refuses("11 tier " + tier, x, s -> s.rows(0, tier), Check.ARGUMENT);
         }
-        T.refuses("11 series 2", x, () -> x.rows(2, POINTS), Check.BOUNDS);
-        T.refuses("11 no series and no tier", x, () -> x.rows(-1, 4), Check.BOUNDS);
+        T.refuses("11 series 2", x, s -> s.rows(2, POINTS), Check.BOUNDS);
+        T.refuses("11 no series and no tier", x, s -> s.rows(-1, 4), Check.BOUNDS);
     }
 
     // Promise 12
     private static void timeOf() {
-        RollupStore x = at(86410);
+        Store x = at(86410);
         x.put(0, 86405, 1);
         x.put(0, 86399, 2);
         x.put(0, 83000, 3);
@@ -416,15 +416,15 @@ public final class Promises {
         int[] most = {3, 3, 2, 2};
         for (int tier = POINTS; tier <= DAYS; tier++) {
             int t = tier;
-            T.refuses("12 place -1 of " + t, x, () -> x.timeOf(0, t, -1), Check.STATE);
-            T.refuses("12 place after the last of " + t, x, () -> x.timeOf(0, t, most[t]), Check.STATE);
-            T.refuses("12 greatest place of " + t, x, () -> x.timeOf(0, t, MAX), Check.STATE);
-            T.refuses("12 least place of " + t, x, () -> x.timeOf(0, t, MIN), Check.STATE);
-            T.refuses("12 empty " + t, x, () -> x.timeOf(1, t, 0), Check.STATE);
+            T.refuses("12 place -1 of " + t, x, s -> s.timeOf(0, t, -1), Check.STATE);
+            T.refuses("12 place after the last of " + t, x, s -> s.timeOf(0, t, most[t]), Check.STATE);
+            T.refuses("12 greatest place of " + t, x, s -> s.timeOf(0, t, MAX), Check.STATE);
+            T.refuses("12 least place of " + t, x, s -> s.timeOf(0, t, MIN), Check.STATE);
+            T.refuses("12 empty " + t, x, s -> s.timeOf(1, t, 0), Check.STATE);
         }
-        T.refuses("12 tier and place", x, () -> x.timeOf(0, 4, 9), Check.ARGUMENT);
-        T.refuses("12 tier -1", x, () -> x.timeOf(0, -1, 0), Check.ARGUMENT);
-        T.refuses("12 all wrong", x, () -> x.timeOf(2, 4, 9), Check.BOUNDS);
+        T.refuses("12 tier and place", x, s -> s.timeOf(0, 4, 9), Check.ARGUMENT);
+        T.refuses("12 tier -1", x, s -> s.timeOf(0, -1, 0), Check.ARGUMENT);
+        T.refuses("12 all wrong", x, s -> s.timeOf(2, 4, 9), Check.BOUNDS);
         x.erase(0, 86399);
         T.is("12 after erase", () -> x.timeOf(0, MINUTES, 1), 86400);
         x.advance(7200 + 83001 - 86410);
@@ -433,15 +433,15 @@ public final class Promises {
 
     // Promise 13
     private static void valueAt() {
-        RollupStore x = at(10000);
+        Store x = at(10000);
         x.put(0, 9000, -12);
         T.is("13 value", () -> x.valueAt(0, 9000), -12);
         for (int time : new int[] {8999, 9001, -1, 10001, MIN, MAX}) {
-            T.refuses("13 no point at " + time, x, () -> x.valueAt(0, time), Check.STATE);
+            T.refuses("13 no point at " + time, x, s -> s.valueAt(0, time), Check.STATE);
         }
-        T.refuses("13 of the other series", x, () -> x.valueAt(1, 9000), Check.STATE);
-        T.refuses("13 series 2", x, () -> x.valueAt(2, 9000), Check.BOUNDS);
-        T.refuses("13 series -1", x, () -> x.valueAt(-1, -1), Check.BOUNDS);
+        T.refuses("13 of the other series", x, s -> s.valueAt(1, 9000), Check.STATE);
+        T.refuses("13 series 2", x, s -> s.valueAt(2, 9000), Check.BOUNDS);
+        T.refuses("13 series -1", x, s -> s.valueAt(-1, -1), Check.BOUNDS);
         x.advance(6200);
         T.is("13 at the horizon", () -> x.valueAt(0, 9000), -12);
         x.advance(1);
@@ -450,7 +450,7 @@ public final class Promises {
 
     // Promise 14
     private static void hasRollup() {
-        RollupStore x = at(90000);
+        Store x = at(90000);
         x.put(0, 86400, 1);
         T.is("14 begin of the minute", () -> x.hasRollup(0, MINUTES, 86400), true);
         T.is("14 its last second", () -> x.hasRollup(0, MINUTES, 86459), true);
@@ -473,7 +473,7 @@ public final class Promises {
 
     // Promises 15 to 21
     private static void rollupAnswers() {
-        RollupStore x = at(90000);
+        Store x = at(90000);
         x.put(0, 86410, 7);
         x.put(0, 86400, -3);
         x.put(0, 86459, 1);
@@ -495,7 +495,7 @@ public final class Promises {
         T.is("21 last", () -> x.last(0, of[0], 86430) + " " + x.last(0, of[1], 86430) + " " + x.last(0, of[2], 86430),
                 "1 100 -1000");
         T.is("17 of values all alike", () -> x.average(0, HOURS, 90000), -1000.0);
-        RollupStore y = at(100000);
+        Store y = at(100000);
         for (int part = 0; part < 5; part++) {
             y.putMany(1, 97200 + 20 * part, 1000000, 1, 0, 20);
         }
@@ -519,28 +519,28 @@ public final class Promises {
         for (int which = 0; which < calls.length; which++) {
             RollupCall call = calls[which];
             String name = names[which];
-            RollupStore x = at(100000);
+            Store x = at(100000);
             x.put(0, 99000, 5);
             x.put(1, 99999, 5);
             for (int tier : new int[] {POINTS, -1, 4, MIN, MAX}) {
-                T.refuses(name + " tier " + tier, x, () -> call.of(x, 0, tier, 99000), Check.ARGUMENT);
+                T.refuses(name + " tier " + tier, x, s -> call.of(s, 0, tier, 99000), Check.ARGUMENT);
             }
-            T.refuses(name + " time -1", x, () -> call.of(x, 0, DAYS, -1), Check.ARGUMENT);
-            T.refuses(name + " least time", x, () -> call.of(x, 0, MINUTES, MIN), Check.ARGUMENT);
+            T.refuses(name + " time -1", x, s -> call.of(s, 0, DAYS, -1), Check.ARGUMENT);
+            T.refuses(name + " least time", x, s -> call.of(s, 0, MINUTES, MIN), Check.ARGUMENT);
             for (int series : new int[] {-1, 2, 4, MIN, MAX}) {
-                T.refuses(name + " series " + series, x, () -> call.of(x, series, POINTS, -1), Check.BOUNDS);
+                T.refuses(name + " series " + series, x, s -> call.of(s, series, POINTS, -1), Check.BOUNDS);
             }
             String none = which == 0 ? "false" : Check.STATE;
-            T.refuses(name + " of no minute", x, () -> call.of(x, 0, MINUTES, 98999), none);
-            T.refuses(name + " of no hour", x, () -> call.of(x, 0, HOURS, 97199), none);
-            T.refuses(name + " of no day", x, () -> call.of(x, 0, DAYS, 86399), none);
-            T.refuses(name + " of the other series", x, () -> call.of(x, 1, MINUTES, 99000), none);
-            T.refuses(name + " at time 0", x, () -> call.of(x, 0, MINUTES, 0), none);
+            T.refuses(name + " of no minute", x, s -> call.of(s, 0, MINUTES, 98999), none);
+            T.refuses(name + " of no hour", x, s -> call.of(s, 0, HOURS, 97199), none);
+            T.refuses(name + " of no day", x, s -> call.of(s, 0, DAYS, 86399), none);
+            T.refuses(name + " of the other series", x, s -> call.of(s, 1, MINUTES, 99000), none);
+            T.refuses(name + " at time 0", x, s -> call.of(s, 0, MINUTES, 0), none);
         }
     }
 
     private static void increaseInRollups() {
-        RollupStore x = at(90000);
+        Store x = at(90000);
         x.put(1, 86400, 10);
         x.put(1, 86410, 15);
         x.put(1, 86420, 15);
@@ -558,7 +558,7 @@ public final class Promises {
 
     // Promise 22
     private static void filled() {
-        RollupStore x = at(100000);
+        Store x = at(100000);
         T.is("22 zero in an empty series", () -> x.filled(0, MINUTES, 5, ZERO), 0);
         T.is("22 previous in an empty series", () -> x.filled(0, MINUTES, 5, PREVIOUS), Check.STATE);
         T.is("22 linear in an empty series", () -> x.filled(0, MINUTES, 5, LINEAR), Check.STATE);
@@ -573,12 +573,12 @@ public final class Promises {
         T.is("22 previous between", () -> x.filled(0, MINUTES, 97199, PREVIOUS), 9);
         T.is("22 previous after the last", () -> x.filled(0, MINUTES, MAX, PREVIOUS), -4);
         T.is("22 previous of the tier", () -> x.filled(0, DAYS, 172800, PREVIOUS), -4);
-        T.refuses("22 none is earlier", x, () -> x.filled(0, MINUTES, 96959, PREVIOUS), Check.STATE);
-        T.refuses("22 linear without an earlier", x, () -> x.filled(0, MINUTES, 96959, LINEAR), Check.STATE);
-        T.refuses("22 linear without a later", x, () -> x.filled(0, MINUTES, 97300, LINEAR), Check.STATE);
+        T.refuses("22 none is earlier", x, s -> s.filled(0, MINUTES, 96959, PREVIOUS), Check.STATE);
+        T.refuses("22 linear without an earlier", x, s -> s.filled(0, MINUTES, 96959, LINEAR), Check.STATE);
+        T.refuses("22 linear without a later", x, s -> s.filled(0, MINUTES, 97300, LINEAR), Check.STATE);
         for (int rule : new int[] {-1, 3, MIN, MAX}) {
-            T.refuses("22 rule " + rule, x, () -> x.filled(0, MINUTES, 97000, rule), Check.ARGUMENT);
-            T.refuses("22 no series, rule " + rule, x, () -> x.filled(3, MINUTES, 97000, rule), Check.BOUNDS);
+            T.refuses("22 rule " + rule, x, s -> s.filled(0, MINUTES, 97000, rule), Check.ARGUMENT);
+            T.refuses("22 no series, rule " + rule, x, s -> s.filled(3, MINUTES, 97000, rule), Check.BOUNDS);
         }
         x.advance(97020 + 86400 - 100000);
         T.is("22 an expired one is no earlier one", () -> x.filled(0, MINUTES, 97100, PREVIOUS), Check.STATE);
@@ -586,20 +586,20 @@ public final class Promises {
     }
 
     private static void filledLinear() {
-        RollupStore x = at(100000);
+        Store x = at(100000);
         x.put(0, 97030, 100);
         x.put(0, 97200, -111);
         // The earlier rollup begins at 97020, the later one at 97200.
         T.is("22 linear, first stretch", () -> x.filled(0, MINUTES, 97080, LINEAR), 100 - 211 * 60 / 180);
         T.is("22 linear is told by the stretch", () -> x.filled(0, MINUTES, 97139, LINEAR), 100 - 70);
         T.is("22 linear, second stretch", () -> x.filled(0, MINUTES, 97140, LINEAR), 100 - 140);
-        RollupStore y = at(100000);
+        Store y = at(100000);
         y.put(0, 97020, -5);
         y.put(0, 97140, 0);
         T.is("22 the quotient by itself is rounded", () -> y.filled(0, MINUTES, 97080, LINEAR), -5 + 2);
         y.put(0, 97140, -10);
         T.is("22 towards zero", () -> y.filled(0, MINUTES, 97080, LINEAR), -5 - 2);
-        RollupStore z = at(3600);
+        Store z = at(3600);
         z.setRetention(DAYS, 100000000);
         z.put(0, 0, -1000000);
         for (int step = 0; step < 90; step++) {
@@ -613,7 +613,7 @@ public final class Promises {
 
     // Promise 23
     private static void parts() {
-        RollupStore x = new RollupStore();
+        Store x = new Store();
         T.is("23 nothing", () -> x.parts(0, 0), 0);
         T.is("23 nothing later", () -> x.parts(86400, 86400), 0);
         T.is("23 a minute", () -> x.parts(60, 120), 1);
@@ -635,7 +635,7 @@ public final class Promises {
 
     // Promise 24
     private static void isKnown() {
-        RollupStore x = at(200000);
+        Store x = at(200000);
         int minutes = 200000 - 86400;
         T.is("24 horizon", () -> x.horizon(MINUTES), minutes);
         T.is("24 the minute with the horizon", () -> x.isKnown(113580, 113640), true);
@@ -658,7 +658,7 @@ public final class Promises {
         T.is("24 the day with the horizon", () -> x.isKnown(86400, 172800), true);
         T.is("24 the day before", () -> x.isKnown(0, 86400), false);
         T.is("24 both", () -> x.isKnown(0, 172800), false);
-        RollupStore y = at(86400 + 120);
+        Store y = at(86400 + 120);
         T.is("24 it ends at the horizon", () -> y.isKnown(60, 120), false);
         T.is("24 it ends after the horizon", () -> y.isKnown(120, 180), true);
         y.setRetention(MINUTES, 100000000);
@@ -667,7 +667,7 @@ public final class Promises {
 
     // Promise 25
     private static void total() {
-        RollupStore x = at(86400 + 3600);
+        Store x = at(86400 + 3600);
         T.is("25 no points", () -> x.total(0, 0, 2147483640), 0L);
         x.put(0, 86400, 1);
         x.put(0, 86459, 10);
@@ -684,15 +684,15 @@ public final class Promises {
         T.is("25 nothing", () -> x.total(0, 86400, 86400), 0L);
         T.is("25 the other series", () -> x.total(1, 86400, 172800), 0L);
         x.advance(86400);
-        T.refuses("25 not known", x, () -> x.total(0, 86400, 86460), Check.STATE);
+        T.refuses("25 not known", x, s -> s.total(0, 86400, 86460), Check.STATE);
         T.is("25 known by its hour", () -> x.total(0, 86400, 90000), 1111L);
-        T.refuses("25 an hour and a minute that is not known", x, () -> x.total(0, 86340, 90000), Check.STATE);
+        T.refuses("25 an hour and a minute that is not known", x, s -> s.total(0, 86340, 90000), Check.STATE);
         T.is("25 nothing of what is not known", () -> x.total(0, 60, 60), 0L);
     }
 
     // Promise 26
     private static void totalByPoints() {
-        RollupStore x = at(90000);
+        Store x = at(90000);
         x.put(0, 86400, 1);
         x.put(0, 86459, 10);
         x.put(0, 86460, 100);
@@ -701,10 +701,10 @@ public final class Promises {
         T.is("26 nothing", () -> x.totalByPoints(0, 86460, 86460), 0L);
         T.is("26 horizon", () -> x.horizon(POINTS), 82800);
         T.is("26 from the horizon", () -> x.totalByPoints(0, 82800, 2147483640), 111L);
-        T.refuses("26 before the horizon", x, () -> x.totalByPoints(0, 82740, 86520), Check.STATE);
-        T.refuses("26 nothing before the horizon", x, () -> x.totalByPoints(0, 0, 0), Check.STATE);
+        T.refuses("26 before the horizon", x, s -> s.totalByPoints(0, 82740, 86520), Check.STATE);
+        T.refuses("26 nothing before the horizon", x, s -> s.totalByPoints(0, 0, 0), Check.STATE);
         x.advance(1);
-        T.refuses("26 just before the horizon", x, () -> x.totalByPoints(0, 82800, 86520), Check.STATE);
+        T.refuses("26 just before the horizon", x, s -> s.totalByPoints(0, 82800, 86520), Check.STATE);
         x.setRetention(MINUTES, 7200);
         x.setRetention(POINTS, 100000);
         x.advance(50000);
@@ -714,7 +714,7 @@ public final class Promises {
 
     // Promise 27
     private static void increase() {
-        RollupStore x = at(86400 + 1800);
+        Store x = at(86400 + 1800);
         x.put(1, 86000, 5);
         x.put(1, 86340, 9);
         x.put(1, 86399, 11);
@@ -730,12 +730,12 @@ public final class Promises {
         T.is("27 one point", () -> x.increase(1, 86400, 86460), 0L);
         T.is("27 none", () -> x.increase(1, 86460, 86520), 0L);
         T.is("27 nothing", () -> x.increase(1, 86400, 86400), 0L);
-        T.refuses("27 a gauge", x, () -> x.increase(0, 86400, 86460), Check.STATE);
-        T.refuses("27 a gauge and a wrong window", x, () -> x.increase(0, 1, 60), Check.ARGUMENT);
+        T.refuses("27 a gauge", x, s -> s.increase(0, 86400, 86460), Check.STATE);
+        T.refuses("27 a gauge and a wrong window", x, s -> s.increase(0, 1, 60), Check.ARGUMENT);
         x.advance(86400);
-        T.refuses("27 not known", x, () -> x.increase(1, 86340, 86400), Check.STATE);
+        T.refuses("27 not known", x, s -> s.increase(1, 86340, 86400), Check.STATE);
         T.is("27 known by its hours", () -> x.increase(1, 82800, 90000), 12L);
-        RollupStore y = at(86400 * 3);
+        Store y = at(86400 * 3);
         y.setRetention(MINUTES, 100000000);
         y.put(1, 259000, 1);
         y.put(1, 259200, 1);
@@ -749,7 +749,7 @@ public final class Promises {
 
     // Promise 28
     private static void ratePerHour() {
-        RollupStore x = at(90000);
+        Store x = at(90000);
         x.put(1, 86400, 1);
         x.put(1, 86410, 8);
         x.put(1, 89990, 10);
@@ -760,12 +760,12 @@ public final class Promises {
         T.is("28 no exact one", () -> x.ratePerHour(1, 86400, 86820), 7.0 * 3600 / 420);
         T.is("28 none", () -> x.ratePerHour(1, 86460, 86520), 0.0);
         T.is("28 the longest", () -> x.ratePerHour(1, 0, 2147483640), 9.0 * 3600 / 2147483640.0);
-        T.refuses("28 nothing", x, () -> x.ratePerHour(1, 86400, 86400), Check.ARGUMENT);
-        T.refuses("28 nothing of a gauge", x, () -> x.ratePerHour(0, 86400, 86400), Check.ARGUMENT);
-        T.refuses("28 a gauge", x, () -> x.ratePerHour(0, 86400, 86460), Check.STATE);
+        T.refuses("28 nothing", x, s -> s.ratePerHour(1, 86400, 86400), Check.ARGUMENT);
+        T.refuses("28 nothing of a gauge", x, s -> s.ratePerHour(0, 86400, 86400), Check.ARGUMENT);
+        T.refuses("28 a gauge", x, s -> s.ratePerHour(0, 86400, 86460), Check.STATE);
         x.advance(86400);
-        T.refuses("28 not known", x, () -> x.ratePerHour(1, 86400, 86460), Check.STATE);
-        T.refuses("28 nothing of what is not known", x, () -> x.ratePerHour(1, 60, 60), Check.ARGUMENT);
+        T.refuses("28 not known", x, s -> s.ratePerHour(1, 86400, 86460), Check.STATE);
+        T.refuses("28 nothing of what is not known", x, s -> s.ratePerHour(1, 60, 60), Check.ARGUMENT);
     }
 
     // Promises 23 to 28
@@ -779,23 +779,23 @@ public final class Promises {
         for (int which = 0; which < calls.length; which++) {
             WindowCall call = calls[which];
             String name = names[which];
-            RollupStore x = at(500000);
+            Store x = at(500000);
             x.put(1, 499000, 5);
             for (int[] w : wrong) {
-                T.refuses(name + " " + w[0] + " to " + w[1], x, () -> call.of(x, 1, w[0], w[1]), Check.ARGUMENT);
+                T.refuses(name + " " + w[0] + " to " + w[1], x, s -> call.of(s, 1, w[0], w[1]), Check.ARGUMENT);
             }
             if (which >= 2) {
                 for (int series : new int[] {-1, 2, MIN, MAX}) {
-                    T.refuses(name + " series " + series, x, () -> call.of(x, series, 60, 0), Check.BOUNDS);
+                    T.refuses(name + " series " + series, x, s -> call.of(s, series, 60, 0), Check.BOUNDS);
                 }
-                T.refuses(name + " of what is not known", x, () -> call.of(x, 1, 60, 120), Check.STATE);
+                T.refuses(name + " of what is not known", x, s -> call.of(s, 1, 60, 120), Check.STATE);
             }
         }
     }
 
     // Promise 29
     private static void gaps() {
-        RollupStore x = at(90000);
+        Store x = at(90000);
         x.put(0, 86400, 1);
         x.put(0, 86520, 1);
         x.put(0, 90000, 1);
@@ -824,15 +824,15 @@ public final class Promises {
             int of = length[t - 1];
             int[][] wrong = {{-of, of}, {1, of}, {of / 2, of}, {0, of + 1}, {0, of / 2}, {2 * of, of}, {MIN, MAX}, {0, MAX}};
             for (int[] w : wrong) {
-                T.refuses("29 tier " + t + " " + w[0] + " to " + w[1], x, () -> x.gaps(0, t, w[0], w[1]), Check.ARGUMENT);
+                T.refuses("29 tier " + t + " " + w[0] + " to " + w[1], x, s -> s.gaps(0, t, w[0], w[1]), Check.ARGUMENT);
             }
         }
-        T.refuses("29 minutes for hours", x, () -> x.gaps(0, HOURS, 60, 3600), Check.ARGUMENT);
-        T.refuses("29 hours for days", x, () -> x.gaps(0, DAYS, 0, 90000), Check.ARGUMENT);
+        T.refuses("29 minutes for hours", x, s -> s.gaps(0, HOURS, 60, 3600), Check.ARGUMENT);
+        T.refuses("29 hours for days", x, s -> s.gaps(0, DAYS, 0, 90000), Check.ARGUMENT);
         for (int tier : new int[] {POINTS, -1, 4, MIN, MAX}) {
-            T.refuses("29 tier " + tier, x, () -> x.gaps(0, tier, 0, 86400), Check.ARGUMENT);
+            T.refuses("29 tier " + tier, x, s -> s.gaps(0, tier, 0, 86400), Check.ARGUMENT);
         }
-        T.refuses("29 series 2", x, () -> x.gaps(2, POINTS, 1, 0), Check.BOUNDS);
-        T.refuses("29 series -1", x, () -> x.gaps(-1, MINUTES, 0, 60), Check.BOUNDS);
+        T.refuses("29 series 2", x, s -> s.gaps(2, POINTS, 1, 0), Check.BOUNDS);
+        T.refuses("29 series -1", x, s -> s.gaps(-1, MINUTES, 0, 60), Check.BOUNDS);
     }
 }
