@@ -135,7 +135,9 @@ final class BoundariesOfTerms extends Boundary {
         whetherThePointIsStillKeptOrNot();
         asLongAsTheRollupHasNotExpired();
         aRollupTellsOfAllThesePoints();
+        allThesePointsAtTheLeastRetentions();
         aRollupOfOnePoint();
+        theLeastAndTheGreatestValue();
         theFirstAndTheLastValueByTime();
         aRollupTellsOfCorrections();
     }
@@ -245,6 +247,49 @@ final class BoundariesOfTerms extends Boundary {
         T.is("the first", () -> x.first(1, DAYS, 86400), 900);
         T.is("the last", () -> x.last(1, DAYS, 86400), 600);
         T.is("the increase", () -> x.increase(1, 86400, 172800), 100L + 400 + 100);
+    }
+
+    /** The first second of each stretch is written at once, its last second as late as it may be. */
+    private static void allThesePointsAtTheLeastRetentions() {
+        T.test("Tiers and rollups", "A rollup tells of all these points:");
+        for (int tier = MINUTES; tier <= DAYS; tier++) {
+            int t = tier;
+            int begin = 2 * LENGTH[t];
+            int end = 3 * LENGTH[t];
+            Store x = at(0);
+            for (int other = POINTS; other <= DAYS; other++) {
+                x.setRetention(other, LEAST_RETENTION[other]);
+            }
+            putAt(x, 1, begin, 900);
+            putAt(x, 1, begin + 1, 100);
+            putAt(x, 1, begin + LENGTH[t] / 2, 200);
+            advance(x, end - 1 + 3600 - x.clock());
+            T.refuses("a second earlier it is too late, tier " + t, x, s -> s.put(1, end - 2, 0), STATE);
+            T.is("the last second, tier " + t, () -> x.put(1, end - 1, 300), false);
+            T.is("it tells of all, tier " + t, () -> told(x, 1, t, begin), "4 1500 100 900 900 300 375.0 300");
+            T.is("erased, tier " + t, () -> x.erase(1, end - 1), 300);
+            T.is("it tells of the rest, tier " + t, () -> told(x, 1, t, begin), "3 1200 100 900 900 200 400.0 200");
+        }
+    }
+
+    private static void theLeastAndTheGreatestValue() {
+        T.test("Tiers and rollups", "the least and the greatest value");
+        for (int tier = HOURS; tier <= DAYS; tier++) {
+            int t = tier;
+            int begin = 2 * LENGTH[t];
+            // Three stretches of the finer tier, two points in each; one of them has both the least and the greatest.
+            for (int which = 0; which < 3; which++) {
+                Store x = at(0);
+                for (int stretch = 0; stretch < 3; stretch++) {
+                    int time = begin + stretch * LENGTH[t - 1];
+                    putAt(x, 0, time, stretch == which ? -90 : 10 + stretch);
+                    putAt(x, 0, time + 1, stretch == which ? 90 : 20 - stretch);
+                }
+                String what = "in stretch " + which + " of tier " + t;
+                T.is("the least " + what, () -> x.least(0, t, begin), -90);
+                T.is("the greatest " + what, () -> x.greatest(0, t, begin), 90);
+            }
+        }
     }
 
     private static void aRollupOfOnePoint() {

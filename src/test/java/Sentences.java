@@ -46,18 +46,26 @@ final class Sentences {
     /** Begins the test of these sentences, or parts of them. */
     void test(String heading, String... sentences) {
         tests++;
+        quote(heading, sentences);
+    }
+
+    /** Names sentences that tell of no boundary. */
+    void none(String heading, String... sentences) {
+        quote(heading, sentences);
+    }
+
+    /** Names a heading under which no sentence tells of a boundary. */
+    void noneUnder(String heading) {
+        check.is(heading + " is a heading", () -> unquoted.remove(heading) != null, true);
+    }
+
+    private void quote(String heading, String... sentences) {
         name = heading + " \"" + String.join("\", \"", sentences) + "\"";
         for (String sentence : sentences) {
             check.is(name + " is said there", () -> texts.getOrDefault(heading, "").contains(sentence), true);
             unquoted.getOrDefault(heading, new ArrayList<>())
                     .removeIf(said -> said.contains(sentence) || sentence.contains(said));
         }
-    }
-
-    /** Names sentences that tell of no boundary. */
-    void none(String heading, String... sentences) {
-        tests--;
-        test(heading, sentences);
     }
 
     void is(String what, Check.Call call, Object due) {
