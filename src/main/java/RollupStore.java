@@ -123,10 +123,14 @@ public final class RollupStore {
             throws IndexOutOfBoundsException, IllegalArgumentException, IllegalStateException {
         Series asked = seriesAt(series);
         needRange(tier, POINTS, DAYS);
-        if (place < 0 || place >= asked.rowsOf(tier)) {
+        if (tier == POINTS) {
+            return timeOfPoint(asked.points, place);
+        }
+        Rollup row = asked.rollupsOf(tier).rowOrNull(place);
+        if (row == null) {
             throw new IllegalStateException("there is no such place");
         }
-        return tier == POINTS ? asked.points.times[place] : asked.rollupsOf(tier).rows[place].begin;
+        return row.begin;
     }
 
     public int valueAt(int series, int time) throws IndexOutOfBoundsException, IllegalStateException {
@@ -309,6 +313,13 @@ public final class RollupStore {
         }
     }
 
+    private static int timeOfPoint(Points points, int place) {
+        if (place < 0 || place >= points.kept) {
+            throw new IllegalStateException("there is no such place");
+        }
+        return points.times[place];
+    }
+
     private static int placeOfPoint(Series asked, int time) {
         int place = asked.points.placeFrom(time);
         if (!asked.points.isAt(place, time)) {
@@ -459,7 +470,7 @@ public final class RollupStore {
         }
 
         void remove(int place, int many) {
-            if (place < 0 || many < 0 || many > kept - place) {
+            if (place < 0 || many < 1 || many > kept - place) {
                 return;
             }
             System.arraycopy(times, place + many, times, place, kept - place - many);
@@ -495,7 +506,8 @@ public final class RollupStore {
         int placeFrom(int time) {
             int place = 0;
             for (int leap = MOST_ROWS; leap > 0; leap >>= 1) {
-                if (place + leap <= kept && rows[place + leap - 1].begin < time) {
+                Rollup row = rowOrNull(place + leap - 1);
+                if (row != null && row.begin < time) {
                     place += leap;
                 }
             }
@@ -513,12 +525,15 @@ public final class RollupStore {
 
         /** The rollup that begins there, a new one if there is none; null if there is no place for it. */
         Rollup findOrMake(int begin) {
-            Rollup found = find(begin);
-            if (found != null || kept >= MOST_ROWS) {
+            int place = placeFrom(begin);
+            Rollup found = rowOrNull(place);
+            if (found != null && found.begin == begin) {
                 return found;
             }
+            if (kept >= MOST_ROWS) {
+                return null;
+            }
             makeRoom();
-            int place = placeFrom(begin);
             Rollup made = rows[kept] == null ? new Rollup() : rows[kept];
             for (int moved = kept; moved > place; moved--) {
                 rows[moved] = rows[moved - 1];
@@ -541,7 +556,7 @@ public final class RollupStore {
         }
 
         void remove(int place, int many) {
-            if (place < 0 || many < 0 || many > kept - place) {
+            if (place < 0 || many < 1 || many > kept - place) {
                 return;
             }
             for (int moved = place + many; moved < kept; moved++) {
@@ -559,8 +574,12 @@ public final class RollupStore {
         }
 
         void addTo(Rollup summary, int from, int to) {
-            for (int place = placeFrom(from); place < kept && rows[place].begin < to; place++) {
-                summary.addRollup(rows[place]);
+            for (int place = placeFrom(from); place < kept; place++) {
+                Rollup row = rowOrNull(place);
+                if (row == null || row.begin >= to) {
+                    return;
+                }
+                summary.addRollup(row);
             }
         }
     }

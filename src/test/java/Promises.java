@@ -6,7 +6,7 @@ public final class Promises {
     private static final int ZERO = RollupStore.ZERO, PREVIOUS = RollupStore.PREVIOUS, LINEAR = RollupStore.LINEAR;
     private static final int MIN = Integer.MIN_VALUE, MAX = Integer.MAX_VALUE;
 
-    private static final Check T = new Check("Promises");
+    private static final Numbered T = new Numbered(new Check("Promises"));
 
     private interface RollupCall {
         Object of(Store x, int series, int tier, int time);

@@ -15,7 +15,7 @@ final class Sentences {
     private final Map<String, List<String>> unquoted = new LinkedHashMap<>();
     private final Map<String, String> texts = new LinkedHashMap<>();
     private String name = "";
-    private int tests;
+    private final Map<String, Integer> tests = new LinkedHashMap<>();
 
     Sentences(Check check, Path document) throws IOException {
         this.check = check;
@@ -45,7 +45,7 @@ final class Sentences {
 
     /** Begins the test of these sentences, or parts of them. */
     void test(String heading, String... sentences) {
-        tests++;
+        tests.merge(heading, 1, Integer::sum);
         quote(heading, sentences);
     }
 
@@ -80,7 +80,11 @@ final class Sentences {
         for (Map.Entry<String, List<String>> under : unquoted.entrySet()) {
             check.is("sentences without a test under " + under.getKey(), () -> under.getValue(), "[]");
         }
-        System.out.println("Boundaries: " + tests + " tests of sentences");
+        for (int promise = 1; promise <= 29; promise++) {
+            String heading = "Promise " + promise;
+            check.is(heading + " has a test", () -> tests.containsKey(heading), true);
+        }
+        System.out.println("Boundaries: tests of sentences under each heading: " + tests);
         check.end();
     }
 }
