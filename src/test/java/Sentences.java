@@ -84,7 +84,11 @@ final class Sentences {
             String heading = "Promise " + promise;
             check.is(heading + " has a test", () -> tests.containsKey(heading), true);
         }
-        System.out.println("Boundaries: tests of sentences under each heading: " + tests);
+        StringBuilder counted = new StringBuilder("Boundaries: tests of sentences");
+        for (String heading : texts.keySet()) {
+            counted.append(", ").append(heading).append(": ").append(tests.getOrDefault(heading, 0));
+        }
+        System.out.println(counted);
         check.end();
     }
 }
